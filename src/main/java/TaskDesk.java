@@ -229,7 +229,6 @@ public final class TaskDesk {
             throw new IllegalStateException("16 cases are told");
         }
         freePlace = place.sibling;
-        place.sibling = null;
         place.target = target;
         place.sends = sends;
         place.value = value;

@@ -99,6 +99,8 @@ public final class ChannelsTest {
         x.choose(0, false);
         x.alarm(3, 5);
         x.offer(4, false, 0);
+        Check.due("channel(0) that nobody uses", 5, x.channel(0));
+        Check.due("release(5) while others are used", true, x.release(5));
         for (int channel = 0; channel < 5; channel++) {
             Check.due("release(" + channel + ")", false, x.release(channel));
         }
@@ -224,6 +226,11 @@ public final class ChannelsTest {
         x.finish();
         Check.state("alarm(0, 1) when all is over", () -> x.alarm(0, 1));
         Check.argument("alarm(0, -1) when all is over", () -> x.alarm(0, -1));
+        TaskDesk y = new TaskDesk();
+        y.channel(1);
+        y.finish();
+        Check.state("alarm(0, 1) when all is over", () -> y.alarm(0, 1));
+        Check.due("count(5)", 0, y.count(5));
     }
 
     private static void promise9SendThroughRoom() {

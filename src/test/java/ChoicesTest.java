@@ -12,6 +12,7 @@ public final class ChoicesTest {
         promise13SameChannelTwice();
         promise13BothWaysOnOneChannel();
         promise13AsIfEachWereAlone();
+        promise13WaitsAgain();
         promise13WaitsForGood();
         promise13Closed();
         promise13Broken();
@@ -240,6 +241,39 @@ public final class ChoicesTest {
         Check.outcome(x, 1, 101, true, 1, false);
         Check.outcome(x, 2, 102, true, -1, false);
         Check.outcome(x, 3, 103, true, -1, false);
+    }
+
+    private static void promise13WaitsAgain() {
+        TaskDesk x = new TaskDesk();
+        x.channel(0);
+        x.channel(0);
+        x.spawn();
+        x.spawn();
+        x.offer(0, false, 0);
+        x.offer(1, false, 0);
+        x.choose(0, false);
+        x.send(1, 1);
+        x.offer(0, false, 0);
+        x.offer(1, true, 5);
+        x.choose(0, false);
+        x.giveWay();
+        Check.due("current()", 0, x.current());
+        x.receive(0);
+        x.send(0, 2);
+        Check.due("look(0, 3): 1 woke first and 0 still waits", 1, x.look(0, 3));
+        Check.outcome(x, 1, 2, true, 0, false);
+        Check.due("look(1, 2)", 0, x.look(1, 2));
+        x.send(0, 3);
+        Check.outcome(x, 0, 3, true, -1, false);
+        x.offer(0, false, 0);
+        x.offer(0, false, 0);
+        x.choose(0, false);
+        Check.due("current()", 1, x.current());
+        x.receive(0);
+        x.receive(1);
+        Check.due("look(0, 3)", 3, x.look(0, 3));
+        Check.due("look(1, 3)", 1, x.look(1, 3));
+        Check.due("count(7)", 2, x.count(7));
     }
 
     private static void promise13WaitsForGood() {
