@@ -1,10 +1,15 @@
+import java.util.ArrayList;
+import java.util.List;
 import java.util.Random;
 import java.util.function.LongSupplier;
 
 /** Runs of calls by chance, from fixed seeds, with every answer and all that can be seen compared with the model. */
 public final class ModelTest {
-    private static final int RUNS = 3000;
-    private static final int CALLS = 512;
+    private static final int RUNS = 8000;
+    private static final int MOST_CALLS = 512;
+    private static final int QUESTIONS_OF_A_STEP = 2;
+    /** The call itself, the questions behind it, and what the step may add to all that can be asked. */
+    private static final int CALLS_OF_A_STEP = 1 + 1 + QUESTIONS_OF_A_STEP + 4 + 7;
     private static final int CALLS_AFTER_THE_END = 20;
     private static final String[] CALL_NAMES = {
         "spawn", "giveWay", "finish", "sleep", "channel", "release", "alarm", "send", "receive", "close",
@@ -20,6 +25,7 @@ public final class ModelTest {
     private final int gatesUsed;
     private final int longest;
     private final int mostRoom;
+    private int called;
     private boolean wrong;
 
     private ModelTest(long seed) {
@@ -55,19 +61,25 @@ public final class ModelTest {
         Check.end();
     }
 
+    /** Calls and some questions between them, until what is left of the desk's life is just enough to ask for all. */
     private void play() {
         int after = 0;
-        for (int i = 0; i < CALLS && !wrong && after < CALLS_AFTER_THE_END; i++) {
+        while (!wrong && after < CALLS_AFTER_THE_END && called + CALLS_OF_A_STEP + allQuestions().size() <= MOST_CALLS) {
             step();
-            compareAll();
+            askSome();
             if (chance.nextInt(10) == 0) {
                 askAnything();
             }
             after += model.count(7) == 0 ? 0 : 1;
         }
+        for (String question : allQuestions()) {
+            ask(question);
+        }
+        Check.due("calls of a run are not too many", true, called <= MOST_CALLS);
     }
 
     private void compare(String call, LongSupplier got, LongSupplier want) {
+        called++;
         String gotText = answer(got);
         String wantText = answer(want);
         told.append(call).append(" = ").append(gotText).append('\n');
@@ -86,35 +98,60 @@ public final class ModelTest {
     }
 
     /** What can be seen, compared without a word in the run's text unless it differs. */
-    private void see(String call, int of, int what, long got, long want) {
-        if (got != want) {
-            told.append(call).append(' ').append(of).append(' ').append(what);
-            told.append(" = ").append(got).append(", due is ").append(want).append('\n');
+    private void ask(String question) {
+        called++;
+        String got = Run.answer(desk, question);
+        String want = answer(() -> modelAnswer(question));
+        if (!got.equals(want)) {
+            told.append(question).append(" = ").append(got).append(", due is ").append(want).append('\n');
             wrong = true;
         }
     }
 
-    private void compareAll() {
-        see("current", 0, 0, desk.current(), model.current());
-        see("clock", 0, 0, desk.clock(), model.clock());
-        for (int what = -1; what <= 8; what++) {
-            see("count", 0, what, desk.count(what), model.count(what));
+    private long modelAnswer(String question) {
+        String[] parts = question.split("[(), ]+");
+        int of = parts.length > 1 ? Integer.parseInt(parts[1]) : 0;
+        int what = parts.length > 2 ? Integer.parseInt(parts[2]) : 0;
+        switch (parts[0]) {
+            case "current": return model.current();
+            case "clock": return model.clock();
+            case "count": return model.count(of);
+            case "outcome": return model.outcome(of);
+            case "task": return model.task(of, what);
+            case "look": return model.look(of, what);
+            default: return model.watch(of, what);
+        }
+    }
+
+    private void askSome() {
+        ask("current()");
+        List<String> all = allQuestions();
+        for (int i = 0; i < QUESTIONS_OF_A_STEP; i++) {
+            ask(all.get(chance.nextInt(all.size())));
+        }
+    }
+
+    private List<String> allQuestions() {
+        List<String> all = new ArrayList<>(List.of("current()", "clock()"));
+        for (int what = 0; what <= 7; what++) {
+            all.add("count(" + what + ")");
         }
         for (int task : model.tasks()) {
-            see("outcome", task, 0, desk.outcome(task), model.outcome(task));
-            for (int what = 0; what <= 5; what++) {
-                see("task", task, what, desk.task(task, what), model.task(task, what));
-            }
+            all.add("outcome(" + task + ")");
+            addAll(all, "task", task, 5);
         }
         for (int channel : model.channels()) {
-            for (int what = 0; what <= 4; what++) {
-                see("look", channel, what, desk.look(channel, what), model.look(channel, what));
-            }
+            addAll(all, "look", channel, 4);
         }
         for (int gate = 0; gate < model.count(4); gate++) {
-            for (int what = 0; what <= 2; what++) {
-                see("watch", gate, what, desk.watch(gate, what), model.watch(gate, what));
-            }
+            addAll(all, "watch", gate, 2);
+        }
+        return all;
+    }
+
+    private static void addAll(List<String> all, String call, int of, int last) {
+        for (int what = 0; what <= last; what++) {
+            all.add(call + "(" + of + ", " + what + ")");
         }
     }
 
@@ -184,7 +221,7 @@ public final class ModelTest {
     private void stepTasks(String name) {
         switch (name) {
             case "spawn":
-                if (model.count(0) < 40 && model.count(0) >= 0) {
+                if (model.count(0) < 25) {
                     compare("spawn()", desk::spawn, model::spawn);
                 }
                 break;

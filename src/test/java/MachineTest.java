@@ -3,139 +3,17 @@ import java.lang.management.ManagementFactory;
 import java.util.NoSuchElementException;
 import java.util.Random;
 
-/** The greatest numbers of the document, wild arguments, and that calls make nothing but what they throw. */
-public final class LimitsTest {
+/** Whatever is called, the machine itself throws nowhere, and calls make nothing but what they throw. */
+public final class MachineTest {
     private static final int[] WILD = {
         -2, -1, 0, 1, 2, 3, 4, 5, 15, 16, 17, 255, 256, 257, 511, 512, 513, 8191, 8192, 8193, 1000000000,
         1000000001, -1000000000, Integer.MAX_VALUE, Integer.MIN_VALUE
     };
 
     public static void main(String[] args) {
-        tasksAtMost();
-        channelsAtMost();
-        manyValues();
-        manySleepersAndAlarms();
-        manyCasesThatWait();
-        casesToldAgainAndAgain();
         wildCalls();
         callsMakeNothing();
         Check.end();
-    }
-
-    private static void tasksAtMost() {
-        TaskDesk x = new TaskDesk();
-        for (int i = 1; i < 256; i++) {
-            Check.due("spawn()", i, x.spawn());
-        }
-        Check.state("spawn() as the 257th", x::spawn);
-        Check.due("count(0)", 256, x.count(0));
-        Check.due("count(1)", 255, x.count(1));
-        Check.due("task(255, 5)", 254, x.task(255, 5));
-        Check.due("giveWay()", 1, x.giveWay());
-        Check.due("finish()", 2, x.finish());
-        Check.due("spawn()", 1, x.spawn());
-        Check.due("task(1, 5)", 254, x.task(1, 5));
-        Check.state("spawn() as the 257th", x::spawn);
-    }
-
-    private static void channelsAtMost() {
-        TaskDesk x = new TaskDesk();
-        for (int i = 0; i < 512; i++) {
-            Check.due("channel(16)", i, x.channel(16));
-        }
-        Check.state("channel(0) as the 513th", () -> x.channel(0));
-        Check.due("count(2)", 512, x.count(2));
-        Check.due("count(3)", 8192, x.count(3));
-        Check.due("look(511, 1)", 16, x.look(511, 1));
-        Check.due("release(300)", true, x.release(300));
-        Check.due("channel(16)", 300, x.channel(16));
-    }
-
-    private static void manyValues() {
-        TaskDesk x = new TaskDesk();
-        x.channel(8000);
-        for (int i = 0; i < 250; i++) {
-            Check.due("send(0, ..)", true, x.send(0, 7L * i));
-        }
-        Check.due("look(0, 0)", 250, x.look(0, 0));
-        for (int i = 0; i < 120; i++) {
-            x.receive(0);
-            Check.due("outcome(0)", 7L * i, x.outcome(0));
-        }
-        x.channel(192);
-        for (int i = 0; i < 10; i++) {
-            x.send(1, i);
-            x.send(0, 7L * (250 + i));
-        }
-        x.release(1);
-        for (int i = 120; i < 260; i++) {
-            x.receive(0);
-            Check.due("outcome(0)", 7L * i, x.outcome(0));
-        }
-        Check.due("look(0, 0)", 0, x.look(0, 0));
-    }
-
-    private static void manySleepersAndAlarms() {
-        TaskDesk x = new TaskDesk();
-        x.channel(1);
-        for (int i = 0; i < 126; i++) {
-            x.spawn();
-        }
-        for (int i = 0; i < 126; i++) {
-            x.alarm(0, i % 7);
-            x.sleep(i % 5 + 1);
-        }
-        Check.due("current()", 126, x.current());
-        Check.due("count(5)", 126, x.count(5));
-        x.receive(-1);
-        Check.due("current(): the first to sleep for 1", 0, x.current());
-        Check.due("clock()", 1, x.clock());
-        Check.due("count(5): those of 0 and 1 have rung", 90, x.count(5));
-        Check.due("look(0, 0)", 1, x.look(0, 0));
-        for (int i = 0; i < 26; i++) {
-            Check.due("giveWay()", i == 25 ? 0 : 5 * (i + 1), x.giveWay());
-        }
-    }
-
-    private static void manyCasesThatWait() {
-        TaskDesk x = new TaskDesk();
-        for (int i = 0; i < 16; i++) {
-            x.channel(0);
-        }
-        for (int i = 0; i < 25; i++) {
-            x.spawn();
-        }
-        for (int task = 0; task < 25; task++) {
-            for (int i = 0; i < 16; i++) {
-                x.offer((task + i) % 16, false, 0);
-            }
-            x.choose(task, false);
-        }
-        Check.due("current()", 25, x.current());
-        Check.due("look(0, 3)", 25, x.look(0, 3));
-        x.send(3, 33);
-        Check.outcome(x, 0, 33, true, 3, false);
-        Check.due("look(0, 3)", 24, x.look(0, 3));
-        x.close(2);
-        Check.due("count(1)", 25, x.count(1));
-        Check.due("task(24, 5)", 24, x.task(24, 5));
-        Check.due("task(1, 2)", 1, x.task(1, 2));
-        Check.due("task(24, 2)", 10, x.task(24, 2));
-        for (int i = 0; i < 16; i++) {
-            Check.due("look(" + i + ", 3)", 0, x.look(i, 3));
-        }
-    }
-
-    private static void casesToldAgainAndAgain() {
-        TaskDesk x = new TaskDesk();
-        x.channel(0);
-        for (int i = 0; i < 29; i++) {
-            for (int k = 0; k < 16; k++) {
-                Check.due("offer", k, x.offer(k % 2 - 1, k % 3 == 0, k));
-            }
-            Check.due("choose(0, true)", true, x.choose(0, true));
-        }
-        Check.due("release(0)", true, x.release(0));
     }
 
     /** Far more calls than an object is used for: what they answer is free, but the machine throws nowhere. */
