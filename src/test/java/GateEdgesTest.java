@@ -163,6 +163,9 @@ public final class GateEdgesTest {
                 .due("enter(0) = false", "current() = 3", "leave(3)").gate(3, 0, 0).gate(0, 1, 2).row(1)
                 .due("task(0, 0) = 6", "task(0, 1) = 0", "leave(0)").row(1, 2).gate(0, 1, 1).due("leave(0)")
                 .row(1, 2, 0).gate(0, 1, 0).outcome(0, 0, true, -1, false).due("leave(0)").gate(0, 0, 0);
+        Run.withGates(sentence, 1).due("channel(1) = 0", "enter(0)", "send(0, 9)", "receive(0)", "enter(3) = false")
+                .due("enter(0) = true", "leave(3)", "task(0, 1) = 0").outcome(0, 9, true, -1, false).due("leave(0)")
+                .outcome(0, 0, true, -1, false).row(0);
     }
 
     private static void signalWithNobody() {

@@ -143,10 +143,11 @@ public final class LifeTest {
 
     private static void alarmsAgainAndAgain() {
         Run run = new Run(SENTENCE).due("channel(300) = 0");
-        for (int i = 0; i < 254; i++) {
+        for (int i = 0; i < 252; i++) {
             run.due("alarm(0, 1) = done", "sleep(1) = 0");
         }
-        whole(run.due("look(0, 0) = 254", "clock() = 254", "count(5) = 0"));
+        run.due("look(0, 0) = 252", "clock() = 252", "count(5) = 0");
+        whole(run.due("receive(0) = true", "outcome(0) = 1", "receive(0) = true", "outcome(0) = 2"));
     }
 
     private static void sleepersAndAlarms() {

@@ -16,12 +16,14 @@ public final class TaskEdgesTest {
         andSoOn();
         overOrBlocked();
         overAtOnce();
+        nobodyWaitsWhenAllIsOver();
         allElseStays();
         whoWakesComesToTheEnd();
         numberIsGivenBack();
         outcomeIsOldUntilTheTaskWakes();
         whatLeavesTheOutcome();
         brokenUntilTheNextOutcome();
+        brokenUntilItWakesAgain();
         outcomeAtFirst();
         outcomeIsOfTheLatest();
         promise1();
@@ -170,6 +172,14 @@ public final class TaskEdgesTest {
                 .due("task(3, 5) = throws.NoSuchElementException");
     }
 
+    private static void nobodyWaitsWhenAllIsOver() {
+        Run.withGates("When the main task is over, all is over at once, and there are no tasks", 4)
+                .due("channel(0) = 0", "channel(0) = 1", "enter(0)", "giveWay() = 1", "send(0, 1) = false")
+                .due("offer(0, true, 1)", "offer(1, false, 0)", "choose(0, false) = false", "enter(0) = false")
+                .due("sleep(9) = 0", "look(0, 2) = 2", "look(1, 3) = 1", "watch(0, 2) = 1", "finish() = -1", "look(0, 2) = 0")
+                .due("look(1, 3) = 0", "watch(0, 2) = 0", "watch(0, 1) = 1", "clock() = 0", "release(0) = true");
+    }
+
     private static void allElseStays() {
         Run run = new Run("(all else stays to be looked at, alarms that were to ring and cases told still counted)");
         run.due("sleep(6) = 0", "channel(3) = 0", "channel(1) = 1", "send(0, 8)", "send(0, 9)", "close(1)");
@@ -250,6 +260,19 @@ public final class TaskEdgesTest {
                     .due("send(0, 4) = false", "close(0)").outcome(0, 0, false, -1, true).due("giveWay() = 0")
                     .outcome(0, 0, false, -1, true).due("spawn()", "sleep(0)", "leave(3)", "finish() = 2")
                     .due("giveWay() = 0").outcome(0, 0, false, -1, true).due(next).outcome(0, 0, flag, -1, false);
+        }
+    }
+
+    private static void brokenUntilItWakesAgain() {
+        String sentence = "It is there at once, or when the task wakes (the old one till then";
+        String[] waits = {"send(1, 4)", "receive(1)", "enter(0)", "enter(1)", "read(1)", "enter(2)", "enter(4)"};
+        String[] wakes = {"receive(1)", "send(1, 4)", "leave(0)", "leave(1)", "leave(1)", "leave(2)", "leave(4)"};
+        for (int i = 0; i < waits.length; i++) {
+            boolean received = waits[i].startsWith("receive");
+            Run.withGates(sentence, 1).due("channel(0) = 0", "channel(0) = 1", "enter(0)", "enter(1)", "change(2, 1)")
+                    .due("enter(4)", "send(0, 4) = false", "close(0)", "giveWay() = 0").outcome(0, 0, false, -1, true)
+                    .due(waits[i] + " = false").outcome(0, 0, false, -1, true).due(wakes[i])
+                    .outcome(0, received ? 4 : 0, !waits[i].equals("enter(4)"), -1, false);
         }
     }
 
