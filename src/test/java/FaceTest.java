@@ -8,14 +8,30 @@ import java.util.TreeSet;
 /** The class has the document's face and nothing else that can be seen from outside. */
 public final class FaceTest {
     private static final String[] FACE = {
-        "public int spawn()", "public int giveWay()", "public int finish()", "public int sleep(long)",
-        "public int channel(int)", "public boolean release(int)", "public void alarm(int,long)",
-        "public boolean send(int,long)", "public boolean receive(int)", "public void close(int)",
-        "public int offer(int,boolean,long)", "public boolean choose(int,boolean)", "public int gate(int,int)",
-        "public boolean enter(int)", "public boolean read(int)", "public void leave(int)",
-        "public void change(int,int)", "public int current()", "public int task(int,int)",
-        "public long outcome(int)", "public int look(int,int)", "public int watch(int,int)",
-        "public long clock()", "public int count(int)"
+        "public int spawn() throws IllegalStateException",
+        "public int giveWay() throws IllegalStateException",
+        "public int finish() throws IllegalStateException",
+        "public int sleep(long) throws IllegalArgumentException,IllegalStateException",
+        "public int channel(int) throws IllegalArgumentException,IllegalStateException",
+        "public boolean release(int)",
+        "public void alarm(int,long) throws IllegalArgumentException,IllegalStateException",
+        "public boolean send(int,long) throws IllegalArgumentException,IllegalStateException,UnsupportedOperationException",
+        "public boolean receive(int) throws IllegalArgumentException,IllegalStateException",
+        "public void close(int) throws IllegalArgumentException,IllegalStateException,UnsupportedOperationException",
+        "public int offer(int,boolean,long) throws IllegalArgumentException,IllegalStateException",
+        "public boolean choose(int,boolean) throws IllegalArgumentException,IllegalStateException,UnsupportedOperationException",
+        "public int gate(int,int) throws IllegalArgumentException,IllegalStateException",
+        "public boolean enter(int) throws IllegalArgumentException,IllegalStateException,UnsupportedOperationException",
+        "public boolean read(int) throws IllegalArgumentException,IllegalStateException",
+        "public void leave(int) throws IllegalArgumentException,IllegalStateException,UnsupportedOperationException",
+        "public void change(int,int) throws IllegalArgumentException,IllegalStateException,UnsupportedOperationException",
+        "public int current()",
+        "public int task(int,int) throws NoSuchElementException",
+        "public long outcome(int) throws NoSuchElementException",
+        "public int look(int,int) throws NoSuchElementException",
+        "public int watch(int,int) throws NoSuchElementException",
+        "public long clock()",
+        "public int count(int)"
     };
 
     public static void main(String[] args) {
@@ -33,7 +49,7 @@ public final class FaceTest {
         for (Method method : TaskDesk.class.getDeclaredMethods()) {
             if (!Modifier.isPrivate(method.getModifiers())) {
                 names.add(method.getName());
-                String text = method.toString().replace("TaskDesk.", "").replaceAll(" throws .*", "");
+                String text = method.toString().replace("TaskDesk.", "").replaceAll("java\\.(lang|util)\\.", "");
                 if (!face.remove(text)) {
                     Check.tell("not of the face: " + text);
                 }
